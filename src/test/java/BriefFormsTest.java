@@ -7,6 +7,7 @@ public final class BriefFormsTest {
         briefAndGain();
         proposalOrder();
         proposalStrokes();
+        proposalIsMadeAnew();
         acceptProposal();
         Checks.finish();
     }
@@ -140,6 +141,22 @@ public final class BriefFormsTest {
         Checks.due("proposedStroke(9)", x.proposedStroke(9), 11);
         x.setVowels(255);
         Checks.due("without gains", x.proposedWord(-1), 0);
+    }
+
+    private static void proposalIsMadeAnew() {
+        Checks.part("promises 20 and 21, after a change");
+        ShorthandOutlines x = new ShorthandOutlines();
+        Checks.add(x, "bc", 1);
+        Checks.due("proposedStroke(0)", x.proposedStroke(0), 0);
+        Checks.add(x, "a", 1);
+        Checks.due("proposedStroke(0)", x.proposedStroke(0), 1);
+        x.setBrief(0, 5);
+        Checks.due("proposedStroke(0)", x.proposedStroke(0), -1);
+        x.clearBrief(0);
+        Checks.due("proposedWord(0)", x.proposedWord(0), 0);
+        x.removeWord(1);
+        Checks.due("acceptProposal()", x.acceptProposal(), 1);
+        Checks.due("brief(0)", x.brief(0), 0);
     }
 
     private static void acceptProposal() {

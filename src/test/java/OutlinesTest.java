@@ -111,6 +111,23 @@ public final class OutlinesTest {
         // The dearer join comes first, the whole is cheaper: 1 + 4 against 2 + 1.
         Checks.due("stroke(0, 1)", x.stroke(0, 1), 18);
         Checks.due("cost(0)", x.cost(0), 3);
+        secondStrokeInFront();
+    }
+
+    private static void secondStrokeInFront() {
+        ShorthandOutlines x = new ShorthandOutlines();
+        x.setSound(1, 0, 15);
+        x.setSound(2, 12, 18);
+        Checks.add(x, "bce", 1);
+        Checks.add(x, "bcd", 1);
+        // 15 12 and 15 18 cost 1 against 4 and 2; with d behind, 15 12 9 costs 2.
+        Checks.due("stroke(0, 0)", x.stroke(0, 0), 15);
+        Checks.due("stroke(0, 1)", x.stroke(0, 1), 12);
+        Checks.due("cost(0)", x.cost(0), 1);
+        Checks.due("stroke(1, 0)", x.stroke(1, 0), 15);
+        Checks.due("stroke(1, 1)", x.stroke(1, 1), 12);
+        Checks.due("stroke(1, 2)", x.stroke(1, 2), 9);
+        Checks.due("cost(1)", x.cost(1), 2);
     }
 
     private static void outlines() {

@@ -121,6 +121,11 @@ public final class ReadingTest {
             Checks.due("reading(" + i + ")", x.reading(i), words[i]);
             Checks.due("doubt(" + i + ")", x.doubt(i), doubts[i]);
         }
+        ShorthandOutlines y = new ShorthandOutlines();
+        Checks.add(y, "c", 999);
+        Checks.add(y, "b", 1);
+        Checks.pad(y, 3);
+        Checks.due("one step of doubt outweighs all frequencies", y.reading(0), 1);
     }
 
     private static void ranges() {

@@ -3,6 +3,7 @@ public final class UndoAndDigestTest {
     public static void main(String[] args) {
         atMostFive();
         whatIsKept();
+        wordsComeBack();
         savedWithoutChange();
         errorCount();
         digestOfNewObject();
@@ -58,6 +59,29 @@ public final class UndoAndDigestTest {
         Checks.due("the text is not restored", x.clearText(), 0);
         Checks.due("the pad is not restored", x.clearPad(), 1);
         Checks.due("the counters are not restored", x.errorCount(-2), 1);
+    }
+
+    private static void wordsComeBack() {
+        Checks.part("promise 27, removed words");
+        ShorthandOutlines x = new ShorthandOutlines();
+        Checks.add(x, "bcd", 5);
+        Checks.add(x, "fghf", 6);
+        Checks.type(x, "cdcdcdcd");
+        for (int word = 2; word < 12; word++) {
+            x.addWord(word);
+        }
+        Checks.due("removeWord(0)", x.removeWord(0), 11);
+        Checks.due("removeWord(0)", x.removeWord(0), 10);
+        Checks.due("undo()", x.undo(), 4);
+        Checks.due("undo()", x.undo(), 3);
+        Checks.due("letters(0)", x.letters(0), 3);
+        Checks.due("letters(1)", x.letters(1), 4);
+        Checks.due("letters(11)", x.letters(11), 8);
+        Checks.due("frequency(1)", x.frequency(1), 6);
+        Checks.due("stroke(0, 0)", x.stroke(0, 0), 3);
+        Checks.due("stroke(0, 2)", x.stroke(0, 2), 9);
+        Checks.due("stroke(1, 2)", x.stroke(1, 2), 21);
+        Checks.due("stroke(11, 7)", x.stroke(11, 7), 9);
     }
 
     private static void savedWithoutChange() {
