@@ -529,7 +529,10 @@ public final class ShorthandOutlines {
 
         void build(State state, int word) {
             collectChoices(state, word);
-            weighRests();
+            for (int i = length - 1; i >= 0; i--) {
+                restWithFirst[i] = leastRest(firsts[i], i + 1);
+                restWithSecond[i] = seconds[i] == NONE ? UNREACHABLE : leastRest(seconds[i], i + 1);
+            }
             chooseStrokes();
         }
 
@@ -552,13 +555,6 @@ public final class ShorthandOutlines {
                     seconds[length] = state.second[sound];
                     length++;
                 }
-            }
-        }
-
-        private void weighRests() {
-            for (int i = length - 1; i >= 0; i--) {
-                restWithFirst[i] = leastRest(firsts[i], i + 1);
-                restWithSecond[i] = seconds[i] == NONE ? UNREACHABLE : leastRest(seconds[i], i + 1);
             }
         }
 

@@ -147,14 +147,15 @@ public final class OutlinesTest {
 
     private static void joinCost() {
         Checks.part("promise 15");
-        ShorthandOutlines x = new ShorthandOutlines();
         for (int a = 0; a < 24; a++) {
+            ShorthandOutlines x = new ShorthandOutlines();
             for (int b = 0; b < 24; b++) {
                 int steps = Math.floorMod(a / 3 - b / 3, 8);
                 int turn = steps <= 4 ? steps : 8 - steps;
                 Checks.due("joinCost(" + a + ", " + b + ")", x.joinCost(a, b), a == b ? 3 : turn);
             }
         }
+        ShorthandOutlines x = new ShorthandOutlines();
         for (int wrong : new int[] {-1, 24, Integer.MIN_VALUE, Integer.MAX_VALUE}) {
             Checks.due("joinCost(" + wrong + ", 0)", x.joinCost(wrong, 0), -2);
             Checks.due("joinCost(0, " + wrong + ")", x.joinCost(0, wrong), -2);

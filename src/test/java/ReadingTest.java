@@ -33,9 +33,8 @@ public final class ReadingTest {
 
     private static void differences() {
         Checks.part("promise 26, differences");
-        ShorthandOutlines x = new ShorthandOutlines();
-        Checks.add(x, "a", 1);
         for (int own = 0; own < 24; own++) {
+            ShorthandOutlines x = Checks.having("a");
             x.setSound(0, own, -1);
             for (int written = 0; written < 24; written++) {
                 int steps = Math.floorMod(own / 3 - written / 3, 8);
