@@ -236,7 +236,13 @@ final class DescriptionBoundaries {
             Checks.due("stroke(1, " + i + ")", x.stroke(1, i), codes[i]);
         }
         x.setSound(7, 21, 5);
-        Checks.due("the second stroke where it joins better: stroke(1, 7)", x.stroke(1, 7), 5);
+        Checks.due("the second stroke at the end: stroke(1, 7)", x.stroke(1, 7), 5);
+        x.setSound(7, 21, 0);
+        x.setSound(1, 12, 7);
+        Checks.due("the second stroke in front: stroke(1, 0)", x.stroke(1, 0), 7);
+        Checks.due("alone it is the first: stroke(0, 0)", x.stroke(0, 0), 12);
+        x.setSound(1, 2, -1);
+        Checks.due("the stroke 0 as a second stroke: stroke(1, 7)", x.stroke(1, 7), 0);
     }
 
     private static void joins() {
@@ -515,6 +521,11 @@ final class DescriptionBoundaries {
             Checks.due("reading(" + i + ")", x.reading(i), order[i]);
             Checks.due("doubt(" + i + ")", x.doubt(i), doubts[i]);
         }
+        ShorthandOutlines y = new ShorthandOutlines();
+        Checks.add(y, "c", 999);
+        Checks.add(y, "b", 1);
+        Checks.pad(y, 3);
+        Checks.due("the least step of doubt against the greatest of frequency", y.reading(0), 1);
     }
 
     private static void equalFrequencies() {

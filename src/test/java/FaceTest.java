@@ -7,6 +7,8 @@ import java.nio.file.Path;
 import java.util.ArrayList;
 import java.util.Arrays;
 import java.util.List;
+import java.util.Map;
+import java.util.TreeMap;
 import java.util.TreeSet;
 import java.util.regex.Matcher;
 import java.util.regex.Pattern;
@@ -112,6 +114,7 @@ public final class FaceTest {
         Checks.holds("signs 1 to 127 alone", text.chars().allMatch(c -> c >= 1 && c <= 127));
         library(code);
         noObjectsInCalls(code);
+        sizesAndDepths(code);
     }
 
     private static void library(String code) {
@@ -130,5 +133,40 @@ public final class FaceTest {
             boolean historyRow = line.strip().equals("saved[i] = new State();");
             Checks.holds("made in a constructor: " + line.strip(), !made || field || historyRow);
         }
+    }
+
+    private static void sizesAndDepths(String code) {
+        Pattern head = Pattern.compile("(?m)^( {4}| {8})(?:\\w+ )*[\\w\\[\\]]+ (\\w+)\\(([^)]*)\\) \\{$");
+        Map<String, String> bodies = new TreeMap<>();
+        Matcher m = head.matcher(code);
+        while (m.find()) {
+            String body = code.substring(m.end(), code.indexOf("\n" + m.group(1) + "}", m.end()));
+            Checks.holds("at most seven parameters: " + m.group(2), m.group(3).split(",").length <= 7);
+            Checks.holds("at most sixty lines: " + m.group(2), body.split("\n").length <= 60);
+            Checks.holds("a name of its own, so that its calls are known: " + m.group(2),
+                bodies.put(m.group(2), body) == null);
+        }
+        for (String face : FACE) {
+            String name = face.substring(0, face.indexOf('('));
+            Checks.holds("found in the source: " + name, bodies.containsKey(name));
+            Checks.holds("calls at most eight deep, the library's too: " + name, depth(bodies, name, 0) <= 8);
+        }
+    }
+
+    /** The calls that are open at once below a method of the source, with the method itself. */
+    private static int depth(Map<String, String> bodies, String name, int above) {
+        if (above > 20) {
+            return 20;
+        }
+        int deepest = 0;
+        Matcher call = Pattern.compile("\\b(Math|System)\\.|\\b(\\w+)\\(").matcher(bodies.get(name));
+        while (call.find()) {
+            if (call.group(1) != null) {
+                deepest = Math.max(deepest, 1);
+            } else if (bodies.containsKey(call.group(2))) {
+                deepest = Math.max(deepest, depth(bodies, call.group(2), above + 1));
+            }
+        }
+        return 1 + deepest;
     }
 }

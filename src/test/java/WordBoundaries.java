@@ -332,16 +332,19 @@ final class WordBoundaries {
         for (int removed : new int[] {0, 5, 11}) {
             ShorthandOutlines x = new ShorthandOutlines();
             for (int word = 0; word < 12; word++) {
-                Checks.add(x, "abcdefgh".substring(word % 8), word + 1);
+                Checks.add(x, "hgfdcbgb".substring(word % 8), word + 1);
                 x.setBrief(word, 23 - word);
             }
+            int[] strokes = {21, 18, 15, 9, 6, 3, 18, 3};
             Checks.due("removeWord(" + removed + ")", x.removeWord(removed), 11);
             for (int word = 0; word < 11; word++) {
                 int old = word < removed ? word : word + 1;
                 Checks.due("frequency(" + word + ")", x.frequency(word), old + 1);
                 Checks.due("letters(" + word + ")", x.letters(word), 8 - old % 8);
-                Checks.due("stroke(" + word + ", 0)", x.stroke(word, 0), 3 * (old % 8));
                 Checks.due("brief(" + word + ")", x.brief(word), 23 - old);
+                for (int i = 0; i < 8 - old % 8; i++) {
+                    Checks.due("stroke(" + word + ", " + i + ")", x.stroke(word, i), strokes[old % 8 + i]);
+                }
             }
         }
     }
@@ -358,6 +361,28 @@ final class WordBoundaries {
         Checks.due("undo()", x.undo(), 3);
         Checks.due("words()", x.words(), 12);
         Checks.due("brief(0)", x.brief(0), 9);
+        differentWordsComeBack();
+    }
+
+    private static void differentWordsComeBack() {
+        ShorthandOutlines x = new ShorthandOutlines();
+        for (int word = 0; word < 12; word++) {
+            Checks.add(x, "hgfdcbgb".substring(word % 8), 999 - word);
+        }
+        for (int i = 0; i < 4; i++) {
+            x.removeWord(0);
+        }
+        for (int left = 4; left >= 1; left--) {
+            Checks.due("undo()", x.undo(), left);
+        }
+        int[] strokes = {21, 18, 15, 9, 6, 3, 18, 3};
+        for (int word = 0; word < 12; word++) {
+            int last = 7 - word % 8;
+            Checks.due("letters(" + word + ")", x.letters(word), last + 1);
+            Checks.due("frequency(" + word + ")", x.frequency(word), 999 - word);
+            Checks.due("stroke(" + word + ", 0)", x.stroke(word, 0), strokes[word % 8]);
+            Checks.due("stroke(" + word + ", " + last + ")", x.stroke(word, last), 3);
+        }
     }
 
     private static void remaining() {
